@@ -1,0 +1,260 @@
+import java.util.List;
+import java.util.Random;
+
+/** Random positions, with answers that a slow solver found by the document's words alone. */
+final class ReferenceTest {
+    private static final String LETTERS = ".PNBRQK..pnbrqk";
+
+    private final Random random;
+
+    private ReferenceTest(long seed) {
+        random = new Random(seed);
+    }
+
+    public static void main(String[] args) {
+        long seed = args.length > 0 ? Long.parseLong(args[0]) : 1;
+        int many = args.length > 1 ? Integer.parseInt(args[1]) : 1;
+        ReferenceTest test = new ReferenceTest(seed);
+        test.texts(4000 * many);
+        test.games(60 * many);
+        test.problems(400 * many);
+        test.deepProblems(60 * many);
+        Check.end();
+    }
+
+    /** A position of few men near one another; it may well have faults. */
+    private String text(int men) {
+        char[] board = ".".repeat(64).toCharArray();
+        int black = put(board, 'k', random.nextInt(64));
+        int corner = random.nextInt(3) == 0 ? new int[] {0, 7, 56, 63, 3, 60, 4}[random.nextInt(7)] : black;
+        put(board, 'K', near(corner));
+        for (int i = 0; i < men; i++) {
+            put(board, "PPPNBRQpppnbrq".charAt(random.nextInt(14)), random.nextInt(3) > 0 ? near(black) : random.nextInt(64));
+        }
+        char side = random.nextBoolean() ? 'w' : 'b';
+        String rights = "-";
+        if (random.nextInt(3) == 0) {
+            rights = homes(board);
+        }
+        String passed = random.nextInt(4) > 0 ? "-" : passed(board, side);
+        return fields(board, side, rights, passed);
+    }
+
+    private int near(int square) {
+        int file = Math.floorMod(square % 8 + random.nextInt(7) - 3, 8);
+        int rank = Math.floorMod(square / 8 + random.nextInt(7) - 3, 8);
+        return file + 8 * rank;
+    }
+
+    private int put(char[] board, char man, int square) {
+        int at = square;
+        boolean pawn = man == 'p' || man == 'P';
+        while (board[at] != '.' || pawn && (at < 8 || at > 55)) {
+            if (random.nextInt(500) == 0) {
+                break;
+            }
+            at = random.nextInt(64);
+        }
+        if (board[at] != 'k' && board[at] != 'K') {
+            board[at] = man;
+        }
+        return at;
+    }
+
+    /** Puts kings and rooks on their first squares and gives some rights. */
+    private String homes(char[] board) {
+        StringBuilder rights = new StringBuilder();
+        int[] rooks = {7, 0, 63, 56};
+        for (int i = 0; i < 64; i++) {
+            board[i] = board[i] == 'k' || board[i] == 'K' ? '.' : board[i];
+        }
+        board[4] = 'K';
+        board[60] = 'k';
+        for (int i = 0; i < 4; i++) {
+            if (random.nextInt(3) > 0) {
+                board[rooks[i]] = i < 2 ? 'R' : 'r';
+                rights.append("KQkq".charAt(i));
+            }
+        }
+        return rights.length() == 0 || random.nextInt(6) == 0 ? "-" : rights.toString();
+    }
+
+    private String passed(char[] board, char side) {
+        int file = random.nextInt(8);
+        int beside = file == 0 || file < 7 && random.nextBoolean() ? file + 1 : file - 1;
+        int rank = side == 'w' ? 4 : 3;
+        replace(board, file + 8 * rank, side == 'w' ? 'p' : 'P');
+        replace(board, beside + 8 * rank, side == 'w' ? 'P' : 'p');
+        int target = file + 8 * (side == 'w' ? 5 : 2);
+        if (random.nextInt(8) > 0) {
+            replace(board, target, '.');
+            replace(board, target + (side == 'w' ? 8 : -8), '.');
+        }
+        return "" + (char) ('a' + file) + (char) ('1' + target / 8);
+    }
+
+    private static void replace(char[] board, int at, char man) {
+        if (board[at] != 'k' && board[at] != 'K') {
+            board[at] = man;
+        }
+    }
+
+    private static String fields(char[] board, char side, String rights, String passed) {
+        StringBuilder text = new StringBuilder();
+        for (int rank = 7; rank >= 0; rank--) {
+            text.append(new String(board, 8 * rank, 8)).append(rank > 0 ? "/" : "");
+        }
+        String men = text.toString();
+        for (int d = 8; d > 0; d--) {
+            men = men.replace("........".substring(0, d), "" + d);
+        }
+        return men + " " + side + " " + rights + " " + passed + " 0 1";
+    }
+
+    /** Texts with something wrong in their form. */
+    private void texts(int many) {
+        String letters = " /-0123456789wbKQkqPpNnRrBabcdefghx";
+        for (int i = 0; i < many; i++) {
+            StringBuilder text = new StringBuilder(text(random.nextInt(8)));
+            for (int n = random.nextInt(3); n > 0; n--) {
+                char c = letters.charAt(random.nextInt(letters.length()));
+                int at = random.nextBoolean() ? random.nextInt(text.length()) : text.length() - 1 - random.nextInt(12);
+                switch (random.nextInt(3)) {
+                    case 0:
+                        text.setCharAt(at, c);
+                        break;
+                    case 1:
+                        text.insert(at, c);
+                        break;
+                    default:
+                        text.deleteCharAt(at);
+                        break;
+                }
+            }
+            if (text.length() <= 100) {
+                String t = text.toString();
+                Check.due("load " + t, Check.loading(new MateProblems(), t), new Reference().read(t));
+            }
+        }
+    }
+
+    private Reference position(MateProblems x, int men) {
+        Reference wanted = new Reference();
+        for (int i = 0; i < 100000; i++) {
+            String text = text(men);
+            wanted = new Reference();
+            int fault = wanted.read(text);
+            int got = Check.loading(x, text);
+            Check.due("load " + text, got, fault);
+            if (fault == 0) {
+                return wanted;
+            }
+        }
+        return wanted;
+    }
+
+    /** Games of eight moves and back again. */
+    private void games(int many) {
+        for (int i = 0; i < many; i++) {
+            MateProblems x = new MateProblems();
+            Reference[] was = new Reference[9];
+            was[0] = position(x, 4 + random.nextInt(14));
+            int made = 0;
+            while (made < 8 && !was[made].legal().isEmpty()) {
+                sameMoves(x, was[made]);
+                List<Integer> legal = was[made].legal();
+                int move = legal.get(random.nextInt(legal.size()));
+                was[made + 1] = was[made].behind(move);
+                made++;
+                Check.due("play", x.play(move), made);
+            }
+            for (; made > 0; made--) {
+                sameMoves(x, was[made]);
+                Check.due("back", x.back(), made - 1);
+            }
+            sameMoves(x, was[0]);
+        }
+    }
+
+    private static void sameMoves(MateProblems x, Reference wanted) {
+        List<Integer> legal = wanted.legal();
+        Check.due("moves", x.moves(), legal.size());
+        for (int k = 0; k < legal.size() && k < x.moves(); k++) {
+            Check.due("move " + k, x.move(k), legal.get(k));
+        }
+        Check.due("beaten", x.beaten(), wanted.isBeaten(0) ? 1 : wanted.isBeaten(1) ? 2 : 0);
+    }
+
+    private void problems(int many) {
+        for (int i = 0; i < many; i++) {
+            MateProblems x = new MateProblems();
+            Reference wanted = position(x, 1 + random.nextInt(5));
+            for (int kind = 0; kind < 2; kind++) {
+                for (int goal = 0; goal < 2; goal++) {
+                    sameProblem(x, wanted, kind, goal, 1);
+                    if (wanted.legal().size() < 16) {
+                        sameProblem(x, wanted, kind, goal, 2);
+                    }
+                }
+            }
+            for (int goal = 0; goal < 2; goal++) {
+                sameLines(x, wanted, goal, 1);
+                if (wanted.legal().size() < 6) {
+                    sameLines(x, wanted, goal, 2);
+                }
+            }
+        }
+    }
+
+    private void deepProblems(int many) {
+        for (int i = 0; i < many;) {
+            MateProblems x = new MateProblems();
+            Reference wanted = position(x, 1 + random.nextInt(4));
+            if (wanted.legal().size() < 8) {
+                i++;
+                sameProblem(x, wanted, random.nextInt(2), random.nextInt(2), 3);
+            }
+        }
+    }
+
+    private void sameProblem(MateProblems x, Reference wanted, int kind, int goal, int n) {
+        String what = describe(wanted) + " kind " + kind + " goal " + goal + " in " + n + ": ";
+        List<Integer> keys = wanted.keys(kind, goal, n, false);
+        Check.due(what + "keys", x.keys(kind, goal, n), keys.size());
+        List<Integer> legal = wanted.legal();
+        for (int tries = 0; tries < 3 && !legal.isEmpty(); tries++) {
+            int k = random.nextInt(legal.size());
+            Check.due(what + "refuted " + k, x.refuted(kind, goal, n, k), wanted.refuted(legal.get(k), kind, goal, n));
+        }
+        int least = 0;
+        for (int m = n; m >= 1; m--) {
+            least = wanted.keys(kind, goal, m, true).isEmpty() ? least : m;
+        }
+        Check.due(what + "least", x.least(kind, goal, n), least);
+        for (int i = 0; i < keys.size(); i++) {
+            Check.due(what + "key " + i, x.key(i), keys.get(i));
+        }
+        Check.thrown(what + "no more keys", IndexOutOfBoundsException.class, () -> x.key(keys.size()));
+    }
+
+    private void sameLines(MateProblems x, Reference wanted, int goal, int n) {
+        String what = describe(wanted) + " goal " + goal + " in " + n + ": ";
+        List<List<Integer>> lines = wanted.lines(goal, 2 * n);
+        Check.due(what + "lines", x.lines(goal, n), lines.size());
+        for (int tries = 0; tries < 4 && !lines.isEmpty(); tries++) {
+            int i = random.nextInt(lines.size());
+            for (int j = 0; j < 2 * n; j++) {
+                Check.due(what + "line " + i + " " + j, x.line(goal, n, i, j), lines.get(i).get(j));
+            }
+        }
+        Check.thrown(what + "no more lines", IndexOutOfBoundsException.class, () -> x.line(goal, n, lines.size(), 0));
+    }
+
+    private static String describe(Reference position) {
+        char[] board = new char[64];
+        for (int square = 0; square < 64; square++) {
+            board[square] = LETTERS.charAt(position.men[square]);
+        }
+        return fields(board, "wb".charAt(position.side), "rights" + position.rights, "passed" + position.passed);
+    }
+}
