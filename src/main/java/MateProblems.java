@@ -20,6 +20,8 @@ public final class MateProblems {
     private static final int BLACK_MEN = 8;
 
     private static final int NO_SQUARE = -1;
+    private static final long END_RANKS = 0xff000000000000ffL;
+    private static final long CASTLED_KINGS = 1L << 2 | 1L << 6 | 1L << 58 | 1L << 62;
 
     private static final int DIRECT = 0;
     private static final int SELF = 1;
@@ -160,7 +162,7 @@ public final class MateProblems {
         found.count = 0;
         for (int k = 0; k < legal.count; k++) {
             board.make(legal.told[k]);
-            if (solver.solves(n, 1)) {
+            if (solver.refutation(n, 1) == NONE) {
                 found.add(legal.told[k]);
             }
             board.unmake();
@@ -194,14 +196,16 @@ public final class MateProblems {
         }
         solver.ask(kind, goal);
         board.make(legal.told[k]);
-        int answer = solver.refutation(n, 1, NONE);
+        int answer = solver.refutation(n, 1);
         board.unmake();
         return answer;
     }
 
     public int lines(int goal, int n) throws IllegalArgumentException {
         checkHelp(goal, n);
-        help.seek(goal, n, 0);
+        if (!help.knows(goal, n, 0)) {
+            help.walk(0);
+        }
         return help.count;
     }
 
@@ -211,7 +215,9 @@ public final class MateProblems {
         if (i < 0 || j < 0 || j >= 2 * n) {
             throw new IndexOutOfBoundsException("there is no such line or move");
         }
-        help.seek(goal, n, i);
+        if (!help.knows(goal, n, i)) {
+            help.walk(0);
+        }
         if (i >= help.count) {
             throw new IndexOutOfBoundsException("there is no such line");
         }
@@ -385,7 +391,7 @@ public final class MateProblems {
                     if (man == 0) {
                         return false;
                     }
-                    draft.men[file + 8 * rank] = man;
+                    draft.put(file + 8 * rank, man);
                     file++;
                 }
                 afterDigit = digit;
@@ -522,8 +528,8 @@ public final class MateProblems {
          */
         private static final int MOST = 704;
 
-        private final int[] told = new int[MOST];
-        private int count;
+        final int[] told = new int[MOST];
+        int count;
 
         void add(int move) {
             if (count < MOST) {
@@ -532,14 +538,20 @@ public final class MateProblems {
             }
         }
 
-        /** A pawn that comes to the last rank becomes another man. */
-        void addPawn(int from, int to) {
-            boolean last = to < 8 || to >= 56;
-            int lowest = last ? KNIGHT : 0;
-            int highest = last ? QUEEN : 0;
-            for (int man = lowest; man <= highest && count < MOST; man++) {
-                told[count] = from + 64 * to + 4096 * man;
-                count++;
+        /** The moves of one man to some squares, in order; a pawn may have to become another man. */
+        void addAll(int from, long targets, boolean pawn) {
+            long left = targets;
+            for (int i = 0; i < 64 && left != 0; i++) {
+                long lowest = left & -left;
+                left ^= lowest;
+                int move = from + 64 * Long.bitCount(lowest - 1);
+                if (!pawn || (lowest & END_RANKS) == 0) {
+                    add(move);
+                    continue;
+                }
+                for (int man = KNIGHT; man <= QUEEN; man++) {
+                    add(move + 4096 * man);
+                }
             }
         }
 
@@ -548,39 +560,23 @@ public final class MateProblems {
         }
 
         boolean holds(int move) {
-            return placeOf(move) >= 0;
-        }
-
-        int placeOf(int move) {
             for (int i = 0; i < count; i++) {
                 if (told[i] == move) {
-                    return i;
+                    return true;
                 }
             }
-            return -1;
+            return false;
         }
 
-        /** The move at a place below twice the count, as if the row went round. */
-        int around(int place) {
-            int at = place < count ? place : place - count;
-            return has(at) ? told[at] : NONE;
-        }
-
-        /** Puts the moves of one man, which begin at start, in order by to and m. */
-        void sortBehind(int start) {
-            for (int i = start + 1; i < count; i++) {
-                int move = told[i];
-                int order = orderOf(move);
-                int j = i;
-                for (; j > start && orderOf(told[j - 1]) > order; j--) {
-                    told[j] = told[j - 1];
+        /** Where the order does not matter, a move that is likely to decide can go first. */
+        void bringFirst(int move) {
+            for (int i = 1; i < count; i++) {
+                if (told[i] == move) {
+                    told[i] = told[0];
+                    told[0] = move;
+                    return;
                 }
-                told[j] = move;
             }
-        }
-
-        private static int orderOf(int move) {
-            return (move >> 6 & 63) * 8 + (move >> 12);
         }
     }
 
@@ -591,13 +587,16 @@ public final class MateProblems {
         private static final int[] FIRST_RANK = {ROOK, KNIGHT, BISHOP, QUEEN, KING, BISHOP, KNIGHT, ROOK};
 
         private final int[] next;
-        private final int[] men = new int[64];
-        private final int[] kings = new int[2];
-        private int side;
-        private int rights;
-        private int passed;
+        final int[] men = new int[64];
 
-        private int depth;
+        /** By side: the squares of its men, one bit each. */
+        final long[] held = new long[2];
+        final int[] kings = new int[2];
+        int side;
+        int rights;
+        int passed = NO_SQUARE;
+
+        int depth;
         private final int[] made = new int[MOST_DEPTH];
         private final int[] taken = new int[MOST_DEPTH];
         private final int[] takenAt = new int[MOST_DEPTH];
@@ -612,6 +611,8 @@ public final class MateProblems {
             for (int square = 0; square < 64; square++) {
                 men[square] = 0;
             }
+            held[0] = 0;
+            held[1] = 0;
             side = WHITE;
             rights = 0;
             passed = NO_SQUARE;
@@ -621,10 +622,10 @@ public final class MateProblems {
         void setUp() {
             clear();
             for (int file = 0; file < 8; file++) {
-                men[file] = FIRST_RANK[file];
-                men[file + 8] = PAWN;
-                men[file + 48] = PAWN + BLACK_MEN;
-                men[file + 56] = FIRST_RANK[file] + BLACK_MEN;
+                put(file, FIRST_RANK[file]);
+                put(file + 8, PAWN);
+                put(file + 48, PAWN + BLACK_MEN);
+                put(file + 56, FIRST_RANK[file] + BLACK_MEN);
             }
             kings[0] = WHITE_HOME;
             kings[1] = BLACK_HOME;
@@ -635,12 +636,24 @@ public final class MateProblems {
             for (int square = 0; square < 64; square++) {
                 men[square] = other.men[square];
             }
-            kings[0] = other.kings[0];
-            kings[1] = other.kings[1];
+            for (int one = 0; one < 2; one++) {
+                held[one] = other.held[one];
+                kings[one] = other.kings[one];
+            }
             side = other.side;
             rights = other.rights;
             passed = other.passed;
             depth = 0;
+        }
+
+        void put(int square, int man) {
+            men[square] = man;
+            held[man >> 3] |= 1L << square;
+        }
+
+        private void lift(int square) {
+            held[men[square] >> 3] &= ~(1L << square);
+            men[square] = 0;
         }
 
         boolean attacked(int square, int by) {
@@ -675,6 +688,46 @@ public final class MateProblems {
             return right >= 0 && men[right] == pawn || left >= 0 && men[left] == pawn;
         }
 
+        /** The squares up to the first man, his too, that are so many steps away at most. */
+        long seen(int from, int firstWay, int endWay, int most) {
+            long all = 0;
+            for (int way = firstWay; way < endWay; way++) {
+                int at = next[64 * way + from];
+                for (int far = 0; far < most && at >= 0; far++) {
+                    all |= 1L << at;
+                    at = men[at] == 0 ? next[64 * way + at] : NO_SQUARE;
+                }
+            }
+            return all;
+        }
+
+        /** Where just one man stands between the square and a man of that side who attacks along lines. */
+        long shields(int square, int by) {
+            long all = 0;
+            for (int way = 0; way < LINE_WAYS; way++) {
+                long shield = 0;
+                int at = next[64 * way + square];
+                for (int far = 0; far < LONGEST_LINE && at >= 0; far++) {
+                    int man = men[at];
+                    if (man != 0 && shield != 0) {
+                        boolean attacks = man >> 3 == by && (FAR[man] >> way & 1) != 0;
+                        all |= attacks ? shield : 0;
+                        break;
+                    }
+                    if (man != 0) {
+                        shield = 1L << at;
+                    }
+                    at = next[64 * way + at];
+                }
+            }
+            return all;
+        }
+
+        /** One step forwards for that side, or NO_SQUARE. */
+        int inFront(int square, int who) {
+            return next[64 * (who == WHITE ? UP : DOWN) + square];
+        }
+
         /** Whether the side to move is in check. */
         boolean inCheck() {
             return attacked(kings[side], 1 - side);
@@ -702,9 +755,9 @@ public final class MateProblems {
             rightsBefore[depth] = rights;
             passedBefore[depth] = passed;
             depth++;
-            men[victimAt] = 0;
-            men[from] = 0;
-            men[to] = becomes == 0 ? man : becomes + BLACK_MEN * side;
+            lift(victimAt);
+            lift(from);
+            put(to, becomes == 0 ? man : becomes + BLACK_MEN * side);
             if ((man & 7) == KING) {
                 kings[side] = to;
                 castleRook(from, to, true);
@@ -726,9 +779,11 @@ public final class MateProblems {
             int from = move & 63;
             int to = move >> 6 & 63;
             int man = move >> 12 == 0 ? men[to] : PAWN + BLACK_MEN * side;
-            men[to] = 0;
-            men[takenAt[depth]] = taken[depth];
-            men[from] = man;
+            lift(to);
+            put(from, man);
+            if (taken[depth] != 0) {
+                put(takenAt[depth], taken[depth]);
+            }
             if ((man & 7) == KING) {
                 kings[side] = from;
                 castleRook(from, to, false);
@@ -739,39 +794,41 @@ public final class MateProblems {
 
         /** Only when it castles does a king go two squares. */
         private void castleRook(int from, int to, boolean forth) {
-            int corner;
-            if (to - from == 2) {
-                corner = from + SHORT_ROOK;
-            } else if (from - to == 2) {
-                corner = from + LONG_ROOK;
-            } else {
+            if (Math.abs(to - from) != 2) {
                 return;
             }
+            int corner = from + (to > from ? SHORT_ROOK : LONG_ROOK);
             int crossed = (from + to) >> 1;
             int rook = forth ? men[corner] : men[crossed];
-            men[corner] = forth ? 0 : rook;
-            men[crossed] = forth ? rook : 0;
+            lift(forth ? corner : crossed);
+            put(forth ? crossed : corner, rook);
         }
     }
 
     /** Finds the moves of the side to move. */
     private static final class Mover {
         private final Board board;
-        private final int[] next;
         private final int[] men;
-        private final MoveRow spare = new MoveRow();
+
+        /** By man: squares on which a man of the side to move would give check, or might. */
+        private final long[] aims = new long[KING + 1];
+
+        /** Men whose stepping aside would give check, if they are of the side to move. */
+        private long hiding;
 
         Mover(Board board) {
             this.board = board;
-            this.next = board.next;
             this.men = board.men;
         }
 
         /** All moves in order, those too that leave the king in check. */
         void fill(MoveRow row) {
             row.count = 0;
-            for (int from = 0; from < 64; from++) {
-                addFrom(from, row);
+            long left = board.held[board.side];
+            for (int i = 0; i < 64 && left != 0; i++) {
+                int from = lowest(left);
+                left &= left - 1;
+                row.addAll(from, targets(from), (men[from] & 7) == PAWN);
             }
         }
 
@@ -779,123 +836,145 @@ public final class MateProblems {
             fill(row);
             int kept = 0;
             for (int i = 0; i < row.count; i++) {
-                if (isLegal(row.told[i])) {
+                board.make(row.told[i]);
+                if (board.isLegal()) {
                     row.told[kept] = row.told[i];
                     kept++;
                 }
+                board.unmake();
             }
             row.count = kept;
         }
 
-        /** Whether the side to move is beaten by that goal. */
-        boolean isBeaten(int goal) {
-            return board.inCheck() == (goal == MATE) && !hasLegal();
+        /** All moves that give check, in order, and some that do not: what is left out gives none. */
+        void fillChecks(MoveRow row) {
+            takeAim();
+            row.count = 0;
+            long left = board.held[board.side];
+            for (int i = 0; i < 64 && left != 0; i++) {
+                int from = lowest(left);
+                left &= left - 1;
+                int man = men[from] & 7;
+                long wanted = (hiding >> from & 1) != 0 ? -1 : aims[man];
+                row.addAll(from, targets(from) & wanted, man == PAWN);
+            }
         }
 
-        private boolean hasLegal() {
-            for (int from = 0; from < 64; from++) {
-                spare.count = 0;
-                addFrom(from, spare);
-                for (int i = 0; i < spare.count; i++) {
-                    if (isLegal(spare.told[i])) {
-                        return true;
-                    }
+        /** The moves of one man alone. */
+        void fillFrom(int from, MoveRow row) {
+            row.count = 0;
+            row.addAll(from, targets(from), (men[from] & 7) == PAWN);
+        }
+
+        /** Whether the side to move is beaten by that goal. */
+        boolean isBeaten(int goal) {
+            boolean checked = board.inCheck();
+            if (checked != (goal == MATE)) {
+                return false;
+            }
+            long left = board.held[board.side];
+            // In check it is most often the king who can go, so he is looked at first.
+            long first = checked ? 1L << board.kings[board.side] : 0;
+            for (int i = 0; i < 64 && left != 0; i++) {
+                int from = lowest(first != 0 ? first : left);
+                left &= ~(1L << from);
+                first = 0;
+                if (canGo(from)) {
+                    return false;
                 }
+            }
+            return true;
+        }
+
+        /** What a pawn becomes does not bear on its own king, so a pawn is moved as it is. */
+        private boolean canGo(int from) {
+            long left = targets(from);
+            for (int i = 0; i < 64 && left != 0; i++) {
+                board.make(from + 64 * lowest(left));
+                boolean legal = board.isLegal();
+                board.unmake();
+                if (legal) {
+                    return true;
+                }
+                left &= left - 1;
             }
             return false;
         }
 
-        private boolean isLegal(int move) {
-            board.make(move);
-            boolean legal = board.isLegal();
-            board.unmake();
-            return legal;
-        }
-
-        private void addFrom(int from, MoveRow row) {
-            int man = men[from];
-            if (man == 0 || man >> 3 != board.side) {
-                return;
-            }
-            int start = row.count;
-            switch (man & 7) {
+        private long targets(int from) {
+            long open = ~board.held[board.side];
+            switch (men[from] & 7) {
                 case PAWN:
-                    addPawn(from, row);
-                    break;
+                    return pawnTargets(from);
                 case KNIGHT:
-                    addSteps(from, LINE_WAYS, ALL_WAYS, 1, row);
-                    break;
+                    return open & board.seen(from, LINE_WAYS, ALL_WAYS, 1);
                 case BISHOP:
-                    addSteps(from, UP_RIGHT, LINE_WAYS, LONGEST_LINE, row);
-                    break;
+                    return open & board.seen(from, UP_RIGHT, LINE_WAYS, LONGEST_LINE);
                 case ROOK:
-                    addSteps(from, UP, UP_RIGHT, LONGEST_LINE, row);
-                    break;
+                    return open & board.seen(from, UP, UP_RIGHT, LONGEST_LINE);
                 case QUEEN:
-                    addSteps(from, UP, LINE_WAYS, LONGEST_LINE, row);
-                    break;
+                    return open & board.seen(from, UP, LINE_WAYS, LONGEST_LINE);
                 default:
-                    addSteps(from, UP, LINE_WAYS, 1, row);
-                    addCastling(from, row);
-                    break;
-            }
-            row.sortBehind(start);
-        }
-
-        private void addSteps(int from, int firstWay, int endWay, int most, MoveRow row) {
-            for (int way = firstWay; way < endWay; way++) {
-                int to = next[64 * way + from];
-                for (int far = 0; far < most && to >= 0; far++) {
-                    int man = men[to];
-                    if (man == 0 || man >> 3 != board.side) {
-                        row.add(from + 64 * to);
-                    }
-                    if (man != 0) {
-                        break;
-                    }
-                    to = next[64 * way + to];
-                }
+                    return open & board.seen(from, UP, LINE_WAYS, 1) | castlingTargets(from);
             }
         }
 
-        private void addPawn(int from, MoveRow row) {
+        private long pawnTargets(int from) {
+            int side = board.side;
+            long prey = board.held[1 - side] | passedBit();
+            int aside = side == WHITE ? UP_RIGHT : DOWN_RIGHT;
+            long all = prey & board.seen(from, aside, aside + 2, 1);
+            int first = board.inFront(from, side);
+            if (first < 0 || men[first] != 0) {
+                return all;
+            }
+            all |= 1L << first;
+            int second = board.inFront(first, side);
+            boolean twice = from >> 3 == (side == WHITE ? 1 : 6) && second >= 0 && men[second] == 0;
+            return twice ? all | 1L << second : all;
+        }
+
+        private long passedBit() {
+            return board.passed >= 0 ? 1L << board.passed : 0;
+        }
+
+        /** A right says that the rook stands on its first square. */
+        private long castlingTargets(int from) {
             boolean white = board.side == WHITE;
-            int forward = white ? UP : DOWN;
-            int to = next[64 * forward + from];
-            if (to >= 0 && men[to] == 0) {
-                row.addPawn(from, to);
-                int second = next[64 * forward + to];
-                if (from >> 3 == (white ? 1 : 6) && second >= 0 && men[second] == 0) {
-                    row.addPawn(from, second);
-                }
+            int rights = white ? board.rights & 3 : board.rights >> 2;
+            if (rights == 0 || from != (white ? WHITE_HOME : BLACK_HOME)) {
+                return 0;
             }
-            int aside = white ? UP_RIGHT : DOWN_RIGHT;
-            for (int way = aside; way < aside + 2; way++) {
-                to = next[64 * way + from];
-                if (to < 0) {
-                    continue;
-                }
-                if (to == board.passed || men[to] != 0 && men[to] >> 3 != board.side) {
-                    row.addPawn(from, to);
-                }
+            int other = 1 - board.side;
+            long full = board.held[0] | board.held[1];
+            boolean canShort = (rights & 1) != 0 && (full >> from & 6) == 0
+                    && !board.attacked(from + 1, other);
+            boolean canLong = (rights & 2) != 0 && (full >> (from - 3) & 7) == 0
+                    && !board.attacked(from - 1, other);
+            if (!canShort && !canLong || board.attacked(from, other)) {
+                return 0;
             }
+            return (canShort ? 1L << (from + 2) : 0) | (canLong ? 1L << (from - 2) : 0);
         }
 
-        /** A right says that the king and the rook stand on their first squares. */
-        private void addCastling(int from, MoveRow row) {
-            int rights = board.side == WHITE ? board.rights & 3 : board.rights >> 2;
-            int other = 1 - board.side;
-            if (rights == 0 || board.attacked(from, other)) {
-                return;
-            }
-            if ((rights & 1) != 0 && men[from + 1] == 0 && men[from + 2] == 0
-                    && !board.attacked(from + 1, other)) {
-                row.add(from + 64 * (from + 2));
-            }
-            if ((rights & 2) != 0 && men[from - 1] == 0 && men[from - 2] == 0
-                    && men[from - 3] == 0 && !board.attacked(from - 1, other)) {
-                row.add(from + 64 * (from - 2));
-            }
+        /** Rare moves count as checks without a closer look: to the last rank, in passing, castling. */
+        private void takeAim() {
+            int side = board.side;
+            int king = board.kings[1 - side];
+            long slanting = board.seen(king, UP_RIGHT, LINE_WAYS, LONGEST_LINE);
+            long straight = board.seen(king, UP, UP_RIGHT, LONGEST_LINE);
+            int behind = side == WHITE ? DOWN_RIGHT : UP_RIGHT;
+            aims[PAWN] = board.seen(king, behind, behind + 2, 1) | END_RANKS | passedBit();
+            aims[KNIGHT] = board.seen(king, LINE_WAYS, ALL_WAYS, 1);
+            aims[BISHOP] = slanting;
+            aims[ROOK] = straight;
+            aims[QUEEN] = slanting | straight;
+            aims[KING] = CASTLED_KINGS;
+            hiding = board.shields(king, side);
+        }
+
+        static int lowest(long squares) {
+            return Long.bitCount((squares & -squares) - 1);
         }
     }
 
@@ -917,6 +996,7 @@ public final class MateProblems {
             this.rows = rows;
         }
 
+        /** Without hints the first reply that refutes is the first one in order. */
         void ask(int newKind, int newGoal) {
             kind = newKind;
             goal = newGoal;
@@ -931,14 +1011,20 @@ public final class MateProblems {
                 return false;
             }
             MoveRow row = rows[ply];
-            mover.fill(row);
-            int start = Math.max(row.placeOf(hints[ply]), 0);
+            boolean last = kind == DIRECT && n == 1;
+            if (last && goal == MATE) {
+                mover.fillChecks(row);
+            } else {
+                mover.fill(row);
+            }
+            row.bringFirst(hints[ply]);
             for (int i = 0; i < row.count; i++) {
-                int move = row.around(start + i);
+                int move = row.told[i];
                 board.make(move);
-                boolean solved = board.isLegal() && solves(n, ply + 1);
+                boolean solves = board.isLegal()
+                        && (last ? mover.isBeaten(goal) : refutation(n, ply + 1) == NONE);
                 board.unmake();
-                if (solved) {
+                if (solves) {
                     hints[ply] = move;
                     return true;
                 }
@@ -946,53 +1032,42 @@ public final class MateProblems {
             return false;
         }
 
-        /** Whether the legal move that was just made solves the problem in n moves. */
-        boolean solves(int n, int ply) {
-            if (kind == DIRECT && n == 1) {
-                return mover.isBeaten(goal);
-            }
-            if (ply >= MOST_PLIES) {
-                return false;
-            }
-            int answer = refutation(n, ply, hints[ply]);
-            if (answer >= 0) {
-                hints[ply] = answer;
-            }
-            return answer == NONE;
-        }
-
         /**
-         * What refutes the legal move that was just made: the first such reply, if they are looked
-         * at in order from the hint on and then from the beginning; NONE if it solves the problem.
+         * What refutes the legal move that was just made: a reply; NONE if the move solves the
+         * problem; STUCK if it does not and there is no reply. The replies of one man are found at
+         * a time, as the first one is often enough.
          */
-        int refutation(int n, int ply, int hint) {
+        int refutation(int n, int ply) {
             if (ply >= MOST_PLIES) {
                 return STUCK;
             }
             MoveRow row = rows[ply];
-            mover.fill(row);
-            int start = Math.max(row.placeOf(hint), 0);
             boolean canReply = false;
-            for (int i = 0; i < row.count; i++) {
-                int reply = row.around(start + i);
-                board.make(reply);
-                boolean legal = board.isLegal();
-                boolean refutes = legal && !goesOn(n, ply + 1);
-                board.unmake();
-                if (refutes) {
-                    return reply;
+            long left = board.held[board.side];
+            int hint = hints[ply];
+            long first = hint >= 0 ? left & 1L << (hint & 63) : 0;
+            for (int i = 0; i < 64 && left != 0; i++) {
+                int from = Mover.lowest(first != 0 ? first : left);
+                left &= ~(1L << from);
+                first = 0;
+                mover.fillFrom(from, row);
+                row.bringFirst(hint);
+                for (int k = 0; k < row.count; k++) {
+                    int reply = row.told[k];
+                    board.make(reply);
+                    boolean legal = board.isLegal();
+                    boolean goesOn = legal
+                            && (kind == SELF && mover.isBeaten(goal) || hasKey(n - 1, ply + 1));
+                    board.unmake();
+                    if (legal && !goesOn) {
+                        hints[ply] = reply;
+                        return reply;
+                    }
+                    canReply = canReply || legal;
                 }
-                canReply = canReply || legal;
             }
-            if (canReply) {
-                return NONE;
-            }
-            return kind == DIRECT && board.inCheck() == (goal == MATE) ? NONE : STUCK;
-        }
-
-        /** Whether the first side is beaten as it wishes, or can still solve the problem. */
-        private boolean goesOn(int n, int ply) {
-            return kind == SELF && mover.isBeaten(goal) || hasKey(n - 1, ply);
+            boolean beaten = kind == DIRECT && board.inCheck() == (goal == MATE);
+            return canReply || beaten ? NONE : STUCK;
         }
     }
 
@@ -1012,7 +1087,7 @@ public final class MateProblems {
         private boolean known;
         private int goal;
         private int plies;
-        private int count;
+        int count;
 
         HelpLines(Board board, Mover mover, MoveRow[] rows) {
             this.board = board;
@@ -1024,19 +1099,22 @@ public final class MateProblems {
             known = false;
         }
 
-        /** Counts the lines, and sees to it that line i is kept if there is one. */
-        void seek(int newGoal, int n, int i) {
+        /**
+         * Whether the lines are counted, and line i is kept if there is one. If not, all is made
+         * ready for a walk that does so.
+         */
+        boolean knows(int newGoal, int n, int i) {
             int first = i - i % MOST_KEPT;
             boolean same = known && goal == newGoal && plies == 2 * n;
             if (same && (first == firstKept || i >= count)) {
-                return;
+                return true;
             }
             known = true;
             goal = newGoal;
             plies = 2 * n;
             firstKept = first;
             count = 0;
-            walk(0);
+            return false;
         }
 
         int moveOf(int i, int j) {
@@ -1044,13 +1122,18 @@ public final class MateProblems {
             return at >= 0 && at < kept.length ? kept[at] : NONE;
         }
 
-        private void walk(int ply) {
+        /** Goes through all lines that begin with the moves made on the path. */
+        void walk(int ply) {
             if (ply >= plies || ply >= LONGEST) {
                 return;
             }
             MoveRow row = rows[ply];
-            mover.fill(row);
             boolean last = ply == plies - 1;
+            if (last && goal == MATE) {
+                mover.fillChecks(row);
+            } else {
+                mover.fill(row);
+            }
             for (int i = 0; i < row.count; i++) {
                 path[ply] = row.told[i];
                 board.make(row.told[i]);

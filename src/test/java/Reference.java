@@ -238,7 +238,7 @@ final class Reference {
     }
 
     boolean isBeaten(int goal) {
-        return legal().isEmpty() && inCheck(side) == (goal == 0);
+        return inCheck(side) == (goal == 0) && legal().isEmpty();
     }
 
     boolean solvedBy(int move, int kind, int goal, int n) {

@@ -5,6 +5,17 @@ import java.util.Random;
 final class ReferenceTest {
     private static final String LETTERS = ".PNBRQK..pnbrqk";
 
+    /** Positions that have keys: their kind, goal and number of moves, and their men. */
+    private static final String[] SOLVED = {
+        "001 1KB2k2/r3q3/4P3/8/8/5q2/6p1/8 b", "002 kbK5/pp6/1P6/8/8/8/8/R7 w", "002 8/8/7k/2Q2P2/4P1R1/4K3/8/8 w",
+        "002 Kb6/2k5/8/4P3/8/8/1p6/8 b", "003 8/8/8/7n/2k5/7p/3n4/K1b5 b", "003 7B/1P5k/7P/1p6/6B1/8/8/6K1 w",
+        "011 7K/5k1p/8/5b1p/8/8/8/8 b", "012 8/8/8/8/8/8/3q2P1/K1bk4 b", "012 6k1/2Q5/8/8/8/3N4/8/3K4 w",
+        "013 4b3/8/8/4P3/4k3/p1P5/P3P3/Kn6 b", "013 Kb6/2k5/8/4P3/8/8/1p6/8 b",
+        "101 4r2k/3q1Q2/6Q1/3n4/3r4/3b4/1p3q2/3K4 w", "101 4r3/8/6Q1/Q7/8/b2p1Q2/1p3q1b/3K1k2 w",
+        "102 4r2k/5Q2/6Q1/8/8/b3q3/1p1p4/4n2K w", "111 4r2k/8/6Q1/8/8/8/1b3q2/n2K4 w",
+        "111 7k/5Q2/1pn3r1/6r1/8/6n1/1p3q2/3K4 w", "112 4r2k/8/4Q1Q1/8/8/8/1p3q2/3K4 w",
+        "112 4r2k/5Q2/6Q1/8/1r3q2/4p3/1p3q2/3K4 w", "113 7k/5Q2/Rp4r1/6r1/8/8/1p3q1n/3K4 w"};
+
     private final Random random;
 
     private ReferenceTest(long seed) {
@@ -19,6 +30,7 @@ final class ReferenceTest {
         test.games(60 * many);
         test.problems(400 * many);
         test.deepProblems(60 * many);
+        test.likeSolved(8 * many);
         Check.end();
     }
 
@@ -100,6 +112,10 @@ final class ReferenceTest {
     }
 
     private static String fields(char[] board, char side, String rights, String passed) {
+        return ranks(board) + " " + side + " " + rights + " " + passed + " 0 1";
+    }
+
+    private static String ranks(char[] board) {
         StringBuilder text = new StringBuilder();
         for (int rank = 7; rank >= 0; rank--) {
             text.append(new String(board, 8 * rank, 8)).append(rank > 0 ? "/" : "");
@@ -108,7 +124,7 @@ final class ReferenceTest {
         for (int d = 8; d > 0; d--) {
             men = men.replace("........".substring(0, d), "" + d);
         }
-        return men + " " + side + " " + rights + " " + passed + " 0 1";
+        return men;
     }
 
     /** Texts with something wrong in their form. */
@@ -215,6 +231,44 @@ final class ReferenceTest {
                 sameProblem(x, wanted, random.nextInt(2), random.nextInt(2), 3);
             }
         }
+    }
+
+    /** Positions that have keys, and such as are made of them by moving a man or two. */
+    private void likeSolved(int many) {
+        for (String solved : SOLVED) {
+            int kind = solved.charAt(0) - '0';
+            int goal = solved.charAt(1) - '0';
+            int n = solved.charAt(2) - '0';
+            for (int i = 0; i < many; i++) {
+                String text = shaken(solved.substring(4), i) + " - - 0 1";
+                MateProblems x = new MateProblems();
+                Reference wanted = new Reference();
+                int fault = wanted.read(text);
+                Check.due("load " + text, Check.loading(x, text), fault);
+                if (fault == 0) {
+                    sameProblem(x, wanted, kind, goal, n);
+                }
+            }
+        }
+    }
+
+    private String shaken(String text, int times) {
+        char[] board = ".".repeat(64).toCharArray();
+        Reference position = new Reference();
+        position.read(text + " - - 0 1");
+        for (int square = 0; square < 64; square++) {
+            board[square] = LETTERS.charAt(position.men[square]);
+        }
+        for (int i = 0; i < Math.min(times, 2);) {
+            int at = random.nextInt(64);
+            int to = near(at);
+            if (board[at] != '.' && board[to] == '.') {
+                board[to] = board[at];
+                board[at] = '.';
+                i++;
+            }
+        }
+        return ranks(board) + text.substring(text.length() - 2);
     }
 
     private void sameProblem(MateProblems x, Reference wanted, int kind, int goal, int n) {
