@@ -123,6 +123,11 @@ final class MovesTest {
         x.back();
         x.back();
         Check.due("rights come back", Check.legalFrom(x, "e8"), "e8d7 e8e7 e8f7 e8c8 e8d8 e8f8 e8g8");
+        x = Check.at("r3k2r/8/8/8/8/8/8/R3K2R w KQkq - 0 1");
+        Check.play(x, "h1h2 a8b8");
+        Check.due("the short rook is away", Check.legalFrom(x, "e1"), "e1c1 e1d1 e1f1 e1d2 e1e2 e1f2");
+        Check.play(x, "e1d1");
+        Check.due("the long rook is away", Check.legalFrom(x, "e8"), "e8d7 e8e7 e8f7 e8d8 e8f8 e8g8");
         // A rook is taken on its first square.
         x = Check.at("r3k3/8/8/8/8/6n1/8/R3K2R b KQq - 0 1");
         Check.play(x, "g3h1");
@@ -225,15 +230,12 @@ final class MovesTest {
     }
 
     private static void goingBack() {
-        MateProblems x = Check.at(KIWI);
-        for (int k = 0; k < x.moves(); k++) {
+        for (int k = 0; k < 48; k++) {
+            MateProblems x = Check.at(KIWI);
             String before = Check.legal(x);
             x.play(x.move(k));
             Check.due("back", x.back(), 0);
             Check.due("as before", Check.legal(x), before);
-            if (k % 4 == 3) {
-                x = Check.at(KIWI);
-            }
         }
         MateProblems y = new MateProblems();
         Check.thrown("back", IllegalStateException.class, y::back);

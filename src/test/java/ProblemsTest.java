@@ -19,7 +19,9 @@ final class ProblemsTest {
     }
 
     private static void keys(int kind, int goal, int n, String text, String want) {
-        Check.due("keys " + kind + goal + n + " of " + text, Check.keys(Check.at(text), kind, goal, n), want);
+        MateProblems x = Check.at(text);
+        Check.due("keys " + kind + goal + n + " of " + text, Check.keys(x, kind, goal, n), want);
+        Check.due("whether there is a key of " + text, x.least(kind, goal, n) > 0, !want.isEmpty());
     }
 
     private static void directMates() {
@@ -71,6 +73,11 @@ final class ProblemsTest {
         keys(0, 0, 1, "4k3/6Q1/8/B2pP3/8/8/8/4R1K1 w - d6 0 1", "e5d6");
         keys(0, 0, 1, "4k3/6Q1/8/B2pP3/8/8/8/4R1K1 w - - 0 1", "");
         keys(0, 0, 1, "8/5KPk/8/8/8/8/8/6R1 w - - 0 1", "g1h1");
+        keys(0, 0, 1, "8/8/8/2R5/8/2Nk4/8/R3KN2 w Q - 0 1", "e1c1");
+        keys(0, 0, 1, "8/8/8/7p/2Q5/4pk2/7P/4K2R w K - 0 1", "e1g1");
+        // Taking in passing opens the rank between rook and king.
+        keys(0, 0, 1, "8/8/7p/R2pP2k/7p/8/8/K5R1 w - d6 0 1", "e5d6");
+        keys(0, 0, 1, "8/8/7p/R2pP2k/7p/8/8/K5R1 w - - 0 1", "");
         // A pawn becomes the one man that does it.
         keys(0, 0, 1, "8/6PB/5KBk/8/8/8/8/8 w - - 0 1", "g7g8n");
         keys(0, 1, 1, "1R6/2P5/k7/8/1B6/P7/K7/8 w - - 0 1", "c7c8n");
@@ -149,10 +156,11 @@ final class ProblemsTest {
         x.keys(0, 0, 1);
         Check.due("load", Check.loading(x, QUEEN), 0);
         noKeys("load of the same position", x);
-        Check.play(x, "g6g5");
-        x.keys(0, 0, 1);
-        x.back();
-        noKeys("back", x);
+        MateProblems y = new MateProblems();
+        Check.play(y, "f2f3 e7e5 g2g4");
+        Check.due("keys of black", Check.keys(y, 0, 0, 1), "d8h4");
+        y.back();
+        noKeys("back", y);
     }
 
     private static void leastMoves() {

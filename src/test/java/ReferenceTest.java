@@ -154,29 +154,34 @@ final class ReferenceTest {
         }
     }
 
-    private Reference position(MateProblems x, int men) {
-        Reference wanted = new Reference();
+    /** A text without faults; those with faults are compared on the way. */
+    private String goodText(int men) {
         for (int i = 0; i < 100000; i++) {
             String text = text(men);
-            wanted = new Reference();
-            int fault = wanted.read(text);
-            int got = Check.loading(x, text);
-            Check.due("load " + text, got, fault);
+            int fault = new Reference().read(text);
+            Check.due("load " + text, Check.loading(new MateProblems(), text), fault);
             if (fault == 0) {
-                return wanted;
+                return text;
             }
         }
-        return wanted;
+        throw new IllegalStateException("all texts have faults");
     }
 
-    /** Games of eight moves and back again. */
+    private static Reference position(String text) {
+        Reference position = new Reference();
+        Check.due("fault of " + text, position.read(text), 0);
+        return position;
+    }
+
+    /** Games of a few moves and back again, within the calls that an object is made for. */
     private void games(int many) {
         for (int i = 0; i < many; i++) {
-            MateProblems x = new MateProblems();
-            Reference[] was = new Reference[9];
-            was[0] = position(x, 4 + random.nextInt(14));
+            String text = goodText(4 + random.nextInt(14));
+            MateProblems x = Check.at(text);
+            Reference[] was = new Reference[6];
+            was[0] = position(text);
             int made = 0;
-            while (made < 8 && !was[made].legal().isEmpty()) {
+            while (made < 5 && !was[made].legal().isEmpty()) {
                 sameMoves(x, was[made]);
                 List<Integer> legal = was[made].legal();
                 int move = legal.get(random.nextInt(legal.size()));
@@ -184,18 +189,22 @@ final class ReferenceTest {
                 made++;
                 Check.due("play", x.play(move), made);
             }
+            sameMoves(x, was[made]);
             for (; made > 0; made--) {
-                sameMoves(x, was[made]);
                 Check.due("back", x.back(), made - 1);
+                Check.due("moves", x.moves(), was[made - 1].legal().size());
             }
-            sameMoves(x, was[0]);
+            if (!was[0].legal().isEmpty()) {
+                Check.due("the first move", x.move(0), was[0].legal().get(0));
+            }
         }
     }
 
     private static void sameMoves(MateProblems x, Reference wanted) {
         List<Integer> legal = wanted.legal();
-        Check.due("moves", x.moves(), legal.size());
-        for (int k = 0; k < legal.size() && k < x.moves(); k++) {
+        int moves = x.moves();
+        Check.due("moves", moves, legal.size());
+        for (int k = 0; k < legal.size() && k < moves; k++) {
             Check.due("move " + k, x.move(k), legal.get(k));
         }
         Check.due("beaten", x.beaten(), wanted.isBeaten(0) ? 1 : wanted.isBeaten(1) ? 2 : 0);
@@ -203,8 +212,9 @@ final class ReferenceTest {
 
     private void problems(int many) {
         for (int i = 0; i < many; i++) {
-            MateProblems x = new MateProblems();
-            Reference wanted = position(x, 1 + random.nextInt(5));
+            String text = goodText(1 + random.nextInt(5));
+            MateProblems x = Check.at(text);
+            Reference wanted = position(text);
             for (int kind = 0; kind < 2; kind++) {
                 for (int goal = 0; goal < 2; goal++) {
                     sameProblem(x, wanted, kind, goal, 1);
@@ -224,8 +234,9 @@ final class ReferenceTest {
 
     private void deepProblems(int many) {
         for (int i = 0; i < many;) {
-            MateProblems x = new MateProblems();
-            Reference wanted = position(x, 1 + random.nextInt(4));
+            String text = goodText(1 + random.nextInt(4));
+            MateProblems x = Check.at(text);
+            Reference wanted = position(text);
             if (wanted.legal().size() < 8) {
                 i++;
                 sameProblem(x, wanted, random.nextInt(2), random.nextInt(2), 3);
