@@ -6,13 +6,29 @@ import java.util.function.LongSupplier;
 final class Check {
     private static int wrong = 0;
 
+    /** The sentence of the document that is being tested, or nothing. */
+    private static String sentence = "";
+
+    static {
+        // A call that must not throw may well do so: the sentence that is broken is told then too.
+        Thread.setDefaultUncaughtExceptionHandler((thread, thrown) -> {
+            System.out.println(sentence + "there was thrown " + thrown);
+            thrown.printStackTrace(System.out);
+            System.exit(1);
+        });
+    }
+
     private Check() {
+    }
+
+    /** What is checked from here on belongs to that sentence. */
+    static void says(String words) {
+        sentence = "\"" + words + "\": ";
     }
 
     static void due(String what, long got, long want) {
         if (got != want) {
-            wrong++;
-            System.out.println(what + " answered " + got + ", due is " + want);
+            isWrong(what, Long.toString(got), Long.toString(want));
         }
     }
 
@@ -22,9 +38,13 @@ final class Check {
 
     static void due(String what, String got, String want) {
         if (!got.equals(want)) {
-            wrong++;
-            System.out.println(what + " answered " + got + ", due is " + want);
+            isWrong(what, got, want);
         }
+    }
+
+    private static void isWrong(String what, String got, String want) {
+        wrong++;
+        System.out.println(sentence + what + " answered " + got + ", due is " + want);
     }
 
     /** The call must throw just that exception. */
@@ -91,22 +111,32 @@ final class Check {
         return name(move & 63) + name(move >> 6 & 63) + m;
     }
 
+    /** The first field of a text: men by square, with a dot for each empty one. */
+    static String men(char[] board) {
+        StringBuilder text = new StringBuilder();
+        for (int rank = 7; rank >= 0; rank--) {
+            text.append(new String(board, 8 * rank, 8)).append(rank > 0 ? "/" : "");
+        }
+        String men = text.toString();
+        for (int d = 8; d > 0; d--) {
+            men = men.replace("........".substring(0, d), "" + d);
+        }
+        return men;
+    }
+
     private static String name(int square) {
         return "" + (char) ('a' + (square & 7)) + (char) ('1' + (square >> 3));
     }
 
     static String legal(MateProblems x) {
-        List<String> all = new ArrayList<>();
-        for (int k = 0; k < x.moves(); k++) {
-            all.add(written(x.move(k)));
-        }
-        return String.join(" ", all);
+        return legalFrom(x, "");
     }
 
     /** The legal moves from one square. */
     static String legalFrom(MateProblems x, String from) {
         List<String> all = new ArrayList<>();
-        for (int k = 0; k < x.moves(); k++) {
+        int moves = x.moves();
+        for (int k = 0; k < moves; k++) {
             String move = written(x.move(k));
             if (move.startsWith(from)) {
                 all.add(move);
@@ -137,5 +167,16 @@ final class Check {
         for (String move : moves.split(" ")) {
             x.play(told(move));
         }
+    }
+
+    /** Which legal move that is, or -1. */
+    static int place(MateProblems x, String move) {
+        int moves = x.moves();
+        for (int k = 0; k < moves; k++) {
+            if (x.move(k) == told(move)) {
+                return k;
+            }
+        }
+        return -1;
     }
 }

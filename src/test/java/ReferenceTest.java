@@ -112,19 +112,7 @@ final class ReferenceTest {
     }
 
     private static String fields(char[] board, char side, String rights, String passed) {
-        return ranks(board) + " " + side + " " + rights + " " + passed + " 0 1";
-    }
-
-    private static String ranks(char[] board) {
-        StringBuilder text = new StringBuilder();
-        for (int rank = 7; rank >= 0; rank--) {
-            text.append(new String(board, 8 * rank, 8)).append(rank > 0 ? "/" : "");
-        }
-        String men = text.toString();
-        for (int d = 8; d > 0; d--) {
-            men = men.replace("........".substring(0, d), "" + d);
-        }
-        return men;
+        return Check.men(board) + " " + side + " " + rights + " " + passed + " 0 1";
     }
 
     /** Texts with something wrong in their form. */
@@ -279,7 +267,7 @@ final class ReferenceTest {
                 i++;
             }
         }
-        return ranks(board) + text.substring(text.length() - 2);
+        return Check.men(board) + text.substring(text.length() - 2);
     }
 
     private void sameProblem(MateProblems x, Reference wanted, int kind, int goal, int n) {
