@@ -200,7 +200,7 @@ final class CallEdgesTest {
     }
 
     private static void queries() {
-        Check.says("(calls that only ask change nothing, but for keys, which changes the keys)");
+        Check.says("other calls leave them");
         Call[] calls = {
             new Call("moves", null, MateProblems::moves), new Call("move", null, x -> x.move(3)), new Call("beaten", null, MateProblems::beaten),
             new Call("least 0 0", null, x -> x.least(0, 0, 3)), new Call("least 1 1", null, x -> x.least(1, 1, 2)),

@@ -21,6 +21,12 @@ final class MatingMovesTest {
         "8/8/8/8/8/8/7p/R3K2k w Q - 0 1 e1f2", "7k/8/5K2/8/8/8/8/BQ6 w - - 0 1 f6f7", "K7/8/8/8/4Qr2/2k5/2N5/2Q5 w - - 0 1 c2a1",
         "8/1B6/r7/6QQ/R7/8/RK3k2/qQ6 w - - 0 1 b2a1"};
 
+    /** The same with other men on other lines of the king. */
+    private static final String[] AMONG_OTHERS = {
+        "7R/8/8/8/7N/8/8/R3KB1k w Q - 0 1 h4f3", "8/B7/8/5Ppk/8/7K/8/7Q w - g6 0 1 h3g3", "8/8/8/8/8/8/8/BBk1K2R w K - 0 1 e1e2",
+        "R7/8/8/8/8/5N2/8/R3K2k w Q - 0 1 e1f2", "8/8/8/8/K5Q1/5N2/2R5/3kb3 w - - 0 1 f3d4", "8/8/3Q4/4P3/6b1/6k1/5R2/N3K2R w K - 0 1 e5e6",
+        "2k5/1R6/P3K3/5B2/8/8/R7/8 w - - 0 1 e6e7"};
+
     private static final String[] IN_PASSING = {
         "8/7Q/8/6pP/8/5K1k/8/8 w - g6 0 1 h5g6", "8/8/k1K5/Pp6/8/8/8/R7 w - b6 0 1 a5b6", "7k/5K2/8/6pP/8/8/8/7R w - g6 0 1 h5g6",
         "8/K7/8/NkpP2R1/8/Q7/8/B7 w - c6 0 1 d5c6", "8/8/7p/Q3pP1k/8/6Q1/4K3/8 w - e6 0 1 f5e6", "8/8/3B4/1pP5/7K/k7/2Q5/8 w - b6 0 1 c5b6",
@@ -37,7 +43,7 @@ final class MatingMovesTest {
 
     public static void main(String[] args) {
         Check.says("SOLVED by a legal move, if behind that the other side is beaten");
-        for (String[] group : new String[][] {DIRECT, DISCOVERED, IN_PASSING, CASTLING}) {
+        for (String[] group : new String[][] {DIRECT, DISCOVERED, AMONG_OTHERS, IN_PASSING, CASTLING}) {
             for (String one : group) {
                 solves(one, 0);
                 solves(turned(one), 0);

@@ -536,68 +536,62 @@ final class MoveEdgesTest {
 
     private static void rightsLost() {
         Check.says("a right is lost when its king or its rook moves from its first square, or that rook is taken there");
-        String[][] cases = {
-            {"w", "e1d1 e8d8 d1e1 d8e8", ""}, {"w", "a1a2 a8a7 a2a1 a7a8", "e1g1 e8g8"}, {"w", "h1h2 h8h7 h2h1 h7h8", "e1c1 e8c8"},
-            {"w", "a1b1 h8g8 b1a1 g8h8", "e1g1 e8c8"}, {"w", "h1g1 a8b8 g1h1 b8a8", "e1c1 e8g8"}, {"w", "e1f1 a8b8 f1e1 b8a8", "e8g8"},
-            {"b", "e8f8 e1f1 f8e8 f1e1", ""}, {"w", "a1d1 e8f8 d1a1 f8e8", "e1g1"}};
-        for (String[] c : cases) {
-            MateProblems x = Check.at(CASTLE + " " + c[0] + " KQkq - 0 1");
-            Check.play(x, c[1]);
-            castlings(c[1], x, c[0].equals("w"), c[2]);
-        }
+        String white = CASTLE + " w KQkq - 0 1";
+        castlings(white, "e1d1 e8d8 d1e1 d8e8", "");
+        castlings(white, "a1a2 a8a7 a2a1 a7a8", "e1g1 e8g8");
+        castlings(white, "h1h2 h8h7 h2h1 h7h8", "e1c1 e8c8");
+        castlings(white, "a1b1 h8g8 b1a1 g8h8", "e1g1 e8c8");
+        castlings(white, "h1g1 a8b8 g1h1 b8a8", "e1c1 e8g8");
+        castlings(white, "e1f1 a8b8 f1e1 b8a8", "e8g8");
+        castlings(white, "a1d1 e8f8 d1a1 f8e8", "e1g1");
+        castlings(CASTLE + " b KQkq - 0 1", "e8f8 e1f1 f8e8 f1e1", "");
+        castlings(white, "a1a8 e8e7 a8a1 e7e8", "e1g1");
+        castlings(white, "h1h8 e8e7 h8h1 e7e8", "e1c1");
         // Each rook in turn is taken, and another one comes to its place.
-        takenRook("r3k2r/8/8/8/8/1n6/R7/R3K2R b KQkq - 0 1", "b3a1 a2a1 e8d8 h1h2 d8e8 h2h1", "");
-        MateProblems a = Check.at("r3k2r/8/8/8/8/1n6/R7/R3K2R b KQkq - 0 1");
-        Check.play(a, "b3a1 a2a1 a8a7");
-        castlings("the long rook was taken", a, true, "e1g1");
-        MateProblems h = Check.at("r3k2r/8/8/8/8/6n1/7R/R3K2R b KQkq - 0 1");
-        Check.play(h, "g3h1 h2h1 a8a7");
-        castlings("the short rook was taken", h, true, "e1c1");
-        MateProblems b = Check.at("r3k2r/r7/1N6/8/8/8/8/R3K2R w KQkq - 0 1");
-        Check.play(b, "b6a8 a7a8 a1a2");
-        castlings("black's long rook was taken", b, false, "e8g8");
-        MateProblems c = Check.at("r3k2r/7r/6N1/8/8/8/8/R3K2R w KQkq - 0 1");
-        Check.play(c, "g6h8 h7h8 a1a2");
-        castlings("black's short rook was taken", c, false, "e8c8");
+        String longRook = "r3k2r/8/8/8/8/1n6/R7/R3K2R b KQkq - 0 1";
+        castlings(longRook, "b3a1 a2a1", "e1g1 e8g8 e8c8");
+        castlings(longRook, "b3a1 a2a1 a8a7", "e1g1 e8g8");
+        castlings(longRook, "b3a1 a2a1 e8d8 h1h2 d8e8 h2h1", "");
+        castlings("r3k2r/8/8/8/8/6n1/7R/R3K2R b KQkq - 0 1", "g3h1 h2h1", "e1c1 e8g8 e8c8");
+        castlings("r3k2r/r7/1N6/8/8/8/8/R3K2R w KQkq - 0 1", "b6a8 a7a8", "e1g1 e1c1 e8g8");
+        castlings("r3k2r/7r/6N1/8/8/8/8/R3K2R w KQkq - 0 1", "g6h8 h7h8", "e1g1 e1c1 e8c8");
     }
 
-    private static void takenRook(String text, String moves, String want) {
+    private static void rightsStay() {
+        Check.says("a right is lost when its king or its rook moves from its first square, or that rook is taken there: only then");
+        castlings("rn2k2r/8/8/8/8/8/8/RN2K2R w KQkq - 0 1", "b1c3 b8c6 c3d5 c6d4", "e1g1 e1c1 e8g8 e8c8");
+        castlings("r3k2r/8/8/8/8/8/8/R3K2R w - - 0 1", "a1a2 a8a7 a2a1 a7a8", "");
+        // Other rooks move and are taken; a rook that comes back brings no right.
+        castlings("r3k2r/8/8/8/8/8/R6R/R3K2R w KQkq - 0 1", "a2a3 h8h3 h2h3 a8a7", "e1g1 e1c1");
+        castlings("r3k2r/8/8/8/8/8/R6R/R3K2R w KQkq - 0 1", "a2a8 e8e7", "e1g1 e1c1");
+        castlings("4k2r/8/8/8/8/8/8/4K2R w Kk - 0 1", "h1h8 e8e7 h8h1 e7e8", "");
+    }
+
+    /** Which castlings of both sides there are behind some moves. */
+    private static void castlings(String text, String moves, String want) {
         MateProblems x = Check.at(text);
         Check.play(x, moves);
-        castlings(moves, x, false, want);
+        String now = castlingsNow(x);
+        for (String step : new String[] {"e1e2", "e1d1", "e8e7", "e7e6", "e8d8"}) {
+            if (Check.place(x, step) >= 0) {
+                Check.play(x, step);
+                break;
+            }
+        }
+        String other = castlingsNow(x);
+        boolean whiteFirst = now.contains("e1") || other.contains("e8");
+        String all = whiteFirst ? now + " " + other : other + " " + now;
+        Check.due(text + " behind " + moves, all.trim(), want);
     }
 
-    /** Which castlings of either side there are, with a quiet move of the side to move between. */
-    private static void castlings(String what, MateProblems x, boolean white, String want) {
+    private static String castlingsNow(MateProblems x) {
         List<String> all = new ArrayList<>();
-        for (String way : white ? new String[] {"e1g1", "e1c1"} : new String[] {"e8g8", "e8c8"}) {
+        for (String way : new String[] {"e1g1", "e1c1", "e8g8", "e8c8"}) {
             if (Check.place(x, way) >= 0) {
                 all.add(way);
             }
         }
-        for (String way : want.split(" ")) {
-            if (way.startsWith(white ? "e1" : "e8")) {
-                Check.due(what + ": " + way, all.remove(way), true);
-            }
-        }
-        Check.due(what + ": no other castling", all.toString(), "[]");
-    }
-
-    private static void rightsStay() {
-        Check.says("a right is lost only then");
-        MateProblems x = Check.at("rn2k2r/8/8/8/8/8/8/RN2K2R w KQkq - 0 1");
-        Check.play(x, "b1c3 b8c6 c3d5 c6d4");
-        castlings("knights moved", x, true, "e1g1 e1c1");
-        Check.play(x, "d5e3");
-        castlings("knights moved", x, false, "e8g8 e8c8");
-        // A third rook goes through the corner's neighbours; a rook that is taken elsewhere had no right.
-        MateProblems y = Check.at("r3k2r/8/8/8/8/8/R6R/R3K2R w KQkq - 0 1");
-        Check.play(y, "a2a3 h8h3 h2h3 a8a7");
-        castlings("other rooks moved and were taken", y, true, "e1g1 e1c1");
-        // White's rook on black's first square does not bring black's right.
-        MateProblems z = Check.at("4k2r/8/8/8/8/8/8/4K2R w Kk - 0 1");
-        Check.play(z, "h1h8 e8e7 h8h1 e7e8");
-        castlings("a rook came back", z, true, "");
+        return String.join(" ", all);
     }
 
     private static void passedBehind() {

@@ -28,6 +28,7 @@ final class ProblemEdgesTest {
         refutedBySpecialMoves();
         byNothing();
         keysCounted();
+        behindEightMoves();
         keysWithoutMoves();
         keysRefused();
         keysInOrder();
@@ -248,6 +249,27 @@ final class ProblemEdgesTest {
         x.back();
         x.back();
         Check.due("as before", x.keys(0, 0, 1), 1);
+    }
+
+    /** However many moves are made, a problem of three moves of each side is looked through to its end. */
+    private static void behindEightMoves() {
+        Check.says("How many KEYS the present position has: behind eight moves too");
+        String text = "7k/5Q2/Rp4r1/6r1/8/8/1p3q1n/3K4 w - - 0 1";
+        MateProblems x = Check.at(text);
+        Check.play(x, "a6a7 h2f1 a7a6 f1h2 a6a7 h2f1 a7a6 f1h2");
+        Check.due("keys", Check.keys(x, 1, 1, 3), "a6a8");
+        Check.due("least", x.least(1, 1, 3), 3);
+        Check.due("the key", x.refuted(1, 1, 3, Check.place(x, "a6a8")), MateProblems.NONE);
+        Check.due("not a key", Check.written(x.refuted(1, 1, 3, Check.place(x, "a6a1"))), "b2a1n");
+        MateProblems y = Check.at(QUEEN);
+        Check.play(y, "g6g1 h8h7 g1g6 h7h8 g6g1 h8h7 g1g6 h7h8");
+        MateProblems alone = Check.at(QUEEN);
+        for (int i = 0; i < 12; i++) {
+            Check.due("keys", Check.keys(y, i / 6, i / 3 % 2, i % 3 + 1), Check.keys(alone, i / 6, i / 3 % 2, i % 3 + 1));
+        }
+        for (int i = 0; i < 4; i++) {
+            Check.due("lines", y.lines(i / 2, i % 2 + 1), alone.lines(i / 2, i % 2 + 1));
+        }
     }
 
     private static void keysWithoutMoves() {
