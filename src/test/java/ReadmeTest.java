@@ -9,8 +9,6 @@ import java.nio.file.Files;
 import java.nio.file.Path;
 import java.util.Arrays;
 import java.util.stream.Collectors;
-import javax.tools.JavaCompiler;
-import javax.tools.ToolProvider;
 
 /** README.md names every call, and its example prints what it says; run from the project's folder. */
 final class ReadmeTest {
@@ -59,10 +57,9 @@ final class ReadmeTest {
         Path folder = Files.createTempDirectory("readme");
         Path source = folder.resolve("Example.java");
         Files.writeString(source, example);
-        JavaCompiler compiler = ToolProvider.getSystemJavaCompiler();
-        int failed = compiler.run(null, System.out, System.out, "-d", folder.toString(),
-                "-cp", System.getProperty("java.class.path"), source.toString());
-        Check.due("compiling the example", failed, 0);
+        Process compiler = new ProcessBuilder("javac", "-d", folder.toString(),
+                "-cp", System.getProperty("java.class.path"), source.toString()).inheritIO().start();
+        Check.due("compiling the example", compiler.waitFor(), 0);
         PrintStream before = System.out;
         ByteArrayOutputStream printed = new ByteArrayOutputStream();
         try (URLClassLoader loader = new URLClassLoader(new URL[] {folder.toUri().toURL()})) {
